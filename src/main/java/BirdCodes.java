@@ -989,7 +989,7 @@ public final class BirdCodes {
 
         int faultKind;
         int faultPlace = NONE;
-        private int[] bytes;
+        private int[] bytes = new int[0];
         private int length;
         private int at;
         private int token;
@@ -1087,6 +1087,9 @@ public final class BirdCodes {
         }
 
         private boolean isToldOfBird(int word) {
+            if (bird == null) {
+                return false;
+            }
             switch (word) {
                 case HEARD: return bird.isHeard();
                 case DRIFT: return bird.drift > 0;
@@ -1135,6 +1138,9 @@ public final class BirdCodes {
         }
 
         private void takeOfBird(int word) {
+            if (bird == null) {
+                return;
+            }
             switch (word) {
                 case HEARD:
                     bird.start = numbers[0];
@@ -1297,7 +1303,8 @@ public final class BirdCodes {
         }
 
         private static int angleOf(int n, int shift, int turn) {
-            return (Math.floorDiv((shift - 7) * n, 8) + turn) & 15;
+            // Bits shifted out make an eighth that goes downwards, below 0 too.
+            return ((shift - 7) * n >> 3) + turn & 15;
         }
 
         void takeCode(int code) {
@@ -1332,6 +1339,11 @@ public final class BirdCodes {
 
         /** I and Q of the samples turned back, by the code from a start 0 .. 61 on. */
         void sumAt(int start) {
+            if (start < 0 || start >= WIDTH) {
+                i = 0;
+                q = 0;
+                return;
+            }
             long less = 0;
             for (int k = 0; k < minusCount; k++) {
                 less += pairs[start + minus[k]];
