@@ -12,11 +12,13 @@ public final class ChannelTest {
         follows();
         followsByTheRules();
         losses();
+        justNotWeak();
         upToTheEnd();
         logs();
         framesOfALog();
         framesTurnedOver();
         badPlaces();
+        badAlone();
         errors();
         latest();
         offs();
@@ -185,6 +187,21 @@ public final class ChannelTest {
         Check.same("weak", x.channel(0, 6), 2);
     }
 
+    private static void justNotWeak() {
+        // Ten strong 62 times 100 by 64 is 968, five strong it is 484: a quarter of the power, not below it.
+        BirdCodes x = Check.of("bird a 4;bird b 4;heard a 0 7 0 5;heard b 0 7 0 5;fade b 10;");
+        x.lock(0, 0);
+        Check.same("base", x.channel(0, 4), 968 * 968);
+        Check.same("follow", x.follow(30), 30);
+        Check.same("power", x.sum(0, 20, 434, 0, 2), 484 * 484);
+        Check.same("not weak", x.channel(0, 6), 0);
+        // Nine and four: 387 is less than a half of 871. Weak just twice isn't lost.
+        BirdCodes weak = Check.of("bird a 4;bird b 4;heard a 0 7 0 4;heard b 0 7 0 5;fade b 10;");
+        weak.lock(0, 0);
+        Check.same("follow", weak.follow(30), 12);
+        Check.same("lost", weak.channel(0, 7), 12);
+    }
+
     private static void upToTheEnd() {
         BirdCodes x = Check.of("bird a 4;heard a 0 7 0 9;send a 3 9;");
         x.lock(0, 198);
@@ -332,6 +349,21 @@ public final class ChannelTest {
         }
         Check.same("bad ones are seen", bad > 10 ? 1 : 0, 1);
         Check.same("turned ones are seen", over > 0 ? 1 : 0, 1);
+    }
+
+    private static void badAlone() {
+        // One at a time, not behind frame(): of the same object too.
+        BirdCodes x = Check.of("bird a 4;bird b 7;heard a 0 7 0 9;heard b 31 3 0 3;send a 1 5;ratio 10;");
+        Check.same("lock", x.lock(0, 0), 0);
+        Check.same("lock", x.lock(1, 0), 1);
+        x.follow(40);
+        Check.same("bad of the first", x.bad(0), 2);
+        List<int[]> second = read(x, 1);
+        Check.same("bad of the second", x.bad(1), second.get(second.size() - 1)[0]);
+        Check.same("another one than of the first", x.bad(1) != x.bad(0) ? 1 : 0, 1);
+        Check.same("latest of the first", x.latest(0, 1), 5);
+        Check.same("latest of the second", x.latest(1, 1), -2);
+        Check.same("bad of the first", x.bad(0), 2);
     }
 
     private static void errors() {

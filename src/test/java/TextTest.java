@@ -251,8 +251,38 @@ public final class TextTest {
         // The text two ahead doesn't shine through either.
         Check.same("text", Check.tell(x, "bird z 4;"), 1);
         Check.same("no old name", x.named(Check.packed("a")), -1);
-        Check.same("not heard", x.bird(0, 4), -2);
+        for (int what = 0; what < due.length; what++) {
+            Check.same("count " + what + " behind two texts", x.count(what), due[what]);
+        }
+        for (int what = 0; what < bird.length; what++) {
+            Check.same("bird " + what + " behind two texts", x.bird(0, what), what == 0 ? 4 : bird[what]);
+        }
+        Check.same("no home behind two texts", x.measure(0), -2);
         Check.same("sends none", x.bit(0, 0), 0);
+        for (int k = 0; k < 3; k++) {
+            Check.same("all can be told again", Check.tell(x, "first 3;second 7;noise 1;seed 1;ratio 11;home 1 1 1 1;"
+                + "bird a 1;heard a 1 1 1 1;drift a 1;fade a 1;place a 1 1 1;"), 11);
+        }
+        samplesAreHeardAnew();
+    }
+
+    private static void samplesAreHeardAnew() {
+        BirdCodes x = Check.of("bird a 0;heard a 0 7 0 9;");
+        Check.same("as told", x.sample(0, 0), 90);
+        Check.same("text", Check.tell(x, "bird a 0;heard a 0 7 4 3;"), 2);
+        Check.same("told anew", x.sample(0, 0), 0);
+        Check.same("told anew", x.sample(0, 1), 30);
+        Check.same("text", Check.tell(x, "noise 99;seed 5;"), 2);
+        int noise = x.sample(0, 0);
+        Check.same("a seed", Check.of("noise 99;seed 5;").sample(0, 0), noise);
+        Check.same("text", Check.tell(x, "noise 99;"), 1);
+        Check.same("no seed", x.sample(0, 0), Check.of("noise 99;").sample(0, 0));
+        Check.same("it was another one", x.sample(0, 0) != noise ? 1 : 0, 1);
+        Check.same("text", Check.tell(x, "noise 99;seed 5;"), 2);
+        Check.same("text", Check.tell(x, ""), 0);
+        Check.same("nothing", x.sample(0, 0), 0);
+        Check.same("text", Check.tell(x, "noise 99;"), 1);
+        Check.same("no seed of two ahead", x.sample(0, 0), Check.of("noise 99;").sample(0, 0));
     }
 
     private static void birds() {
@@ -279,6 +309,9 @@ public final class TextTest {
             Check.same("what -1", Check.thrown(x, bird, -1), 2);
             Check.same("what least", Check.thrown(x, bird, Integer.MIN_VALUE), 2);
         }
+        BirdCodes least = Check.of("bird a 1;drift a 1;fade a 1;");
+        Check.same("drift 1", least.bird(0, 5), 1);
+        Check.same("fade 1", least.bird(0, 6), 1);
         Check.same("bird 3", Check.thrown(x, 3, 0), 1);
         Check.same("bird -1", Check.thrown(x, -1, 0), 1);
         Check.same("both wrong", Check.thrown(x, 3, 11), 1);
