@@ -36,15 +36,6 @@ public final class FaceTest {
         }
         Check.same("the face", got.equals(due) ? 1 : 0, 1);
         others();
-        for (Class<?> inner : BirdCodes.class.getDeclaredClasses()) {
-            Check.same(inner + " is static", Modifier.isStatic(inner.getModifiers()) ? 1 : 0, 1);
-            Check.same(inner + " isn't public", Modifier.isPublic(inner.getModifiers()) ? 1 : 0, 0);
-            Check.same(inner + " has some twenty fields", inner.getDeclaredFields().length <= 24 ? 1 : 0, 1);
-            for (Method m : inner.getDeclaredMethods()) {
-                Check.same(inner + "." + m.getName(), names.contains(m.getName()) ? 1 : 0, 0);
-            }
-        }
-        Check.same("some twelve classes", BirdCodes.class.getDeclaredClasses().length <= 11 ? 1 : 0, 1);
         Check.same("NONE", BirdCodes.NONE, -1);
         Check.end("FaceTest");
     }

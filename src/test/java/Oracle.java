@@ -67,6 +67,63 @@ final class Oracle {
     Deque<Kept> past = new ArrayDeque<>();
     Kept image;
 
+    /** Of a text without a fault. */
+    static Oracle of(String text) {
+        Oracle o = new Oracle();
+        for (String line : text.trim().split(";")) {
+            if (!line.isBlank()) {
+                o.take(line.trim().split("[ \n]+"));
+            }
+        }
+        return o;
+    }
+
+    private void take(String[] words) {
+        boolean ofBird = Character.isLetter(words.length > 1 ? words[1].charAt(0) : '0');
+        int[] numbers = new int[words.length - (ofBird ? 2 : 1)];
+        for (int k = 0; k < numbers.length; k++) {
+            numbers[k] = Integer.parseInt(words[words.length - numbers.length + k]);
+        }
+        if (ofBird) {
+            takeOfBird(words[0], words[1], numbers);
+            return;
+        }
+        switch (words[0]) {
+            case "home": home = numbers; break;
+            case "first": first = numbers[0]; break;
+            case "second": second = numbers[0]; break;
+            case "noise": noise = numbers[0]; break;
+            case "seed": seed = numbers[0]; break;
+            case "ratio": ratio = numbers[0]; break;
+            default: throw new IllegalArgumentException(words[0]);
+        }
+    }
+
+    private void takeOfBird(String word, String name, int[] numbers) {
+        if (word.equals("bird")) {
+            B one = new B();
+            one.name = name;
+            one.delay = numbers[0];
+            birds.add(one);
+            return;
+        }
+        B b = birds.stream().filter(one -> one.name.equals(name)).findFirst().orElseThrow();
+        switch (word) {
+            case "heard":
+                b.heard = true;
+                b.start = numbers[0];
+                b.shift = numbers[1];
+                b.turn = numbers[2];
+                b.strength = numbers[3];
+                break;
+            case "drift": b.drift = numbers[0]; break;
+            case "fade": b.fade = numbers[0]; break;
+            case "send": b.sends.add(numbers); break;
+            case "place": b.place = numbers; break;
+            default: throw new IllegalArgumentException(word);
+        }
+    }
+
     // What a hunt leaves.
     int peak;
     long peakPower;

@@ -7,21 +7,21 @@ public final class OracleTest {
 
     private final Random random;
     private final Oracle oracle = new Oracle();
-    private final BirdCodes x;
+    private final Run x;
     private final StringBuilder run;
 
     private OracleTest(int number) {
         random = new Random(number);
         run = new StringBuilder("world " + number);
-        x = new BirdCodes();
+        x = new Run();
         if (number % 5 == 0) {
-            Check.tell(x, "bird old 30;heard old 1 2 3 4;drift old 1;fade old 1;send old 1 1;place old 1 1 1;"
+            x.tell("bird old 30;heard old 1 2 3 4;drift old 1;fade old 1;send old 1 1;place old 1 1 1;"
                 + "home 1 1 1 1;noise 9;seed 9;ratio 99;first 1;second 1;");
             x.range(0, 3);
             x.keep();
         }
         String text = world();
-        Check.same(run + " text", Check.tell(x, text), text.chars().filter(c -> c == ';').count());
+        Check.same(run + " text", x.tell(text), text.chars().filter(c -> c == ';').count());
         if (x.fault(0) != 0) {
             System.out.println(text);
         }
