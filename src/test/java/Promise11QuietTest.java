@@ -56,6 +56,11 @@ public final class Promise11QuietTest {
         }
         Check.yes("some are neither of the first", seen[0]);
         Check.yes("some are the first of several", seen[2]);
+        // The last of all delays is the answer, too.
+        String last = "first 3;second 5;bird a 27;bird b 19;";
+        Check.same("the last delay", byWorst(last, 2, seen), 30);
+        Check.same("quiet of the last", Run.of(last).quiet(), 30);
+        Check.yes("30 is seen", seen[1]);
         // Five told: a sixth one can still be thought of.
         String five = "bird a 0;bird b 1;bird c 2;bird d 3;bird e 4;";
         Check.same("quiet beside five", Run.of(five).quiet(), Oracle.of(five).quiet());

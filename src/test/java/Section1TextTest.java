@@ -290,7 +290,14 @@ public final class Section1TextTest {
             Check.faultOf(line + " " + word, 3, line.length() + 1);
             Check.faultOf(line + "bird a 1;\n" + word + " 100000;", 3, line.length() + 10);
         }
-        Check.fine("home 0 0 0 0;first 1;second 1;noise 0;seed 0;ratio 10;", 6);
+        String all = "home 0 0 0 0;first 1;second 1;noise 0;seed 0;ratio 10;";
+        Check.fine(all, 6);
+        // Told already, however many others are between.
+        for (String line : once) {
+            String word = line.substring(0, line.indexOf(' '));
+            Check.faultOf(all + line, 3, all.length());
+            Check.faultOf(all + "bird a 1;" + word, 3, all.length() + 9);
+        }
     }
 
     private static void notToldAhead() {

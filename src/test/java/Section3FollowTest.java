@@ -8,6 +8,8 @@ public final class Section3FollowTest {
         theStartOfAPoint();
         turnsByTwiceQ();
         turnsWithIBelow0();
+        turnsWithIOf0();
+        turnsByTheLeast();
         turnsGoAround();
         nothingHeardTurnsNothing();
         bits();
@@ -176,6 +178,48 @@ public final class Section3FollowTest {
         turned("I below 0, less as much", quarter(8, 12, 8), -775, 0);
         turned("I below 0, Q above it", quarter(8, 4, 9), 871, 15);
         turned("I below 0, Q below it", quarter(8, 12, 9), -872, 1);
+    }
+
+    /** "if I is below 0": of 0 it isn't; Q alone is left of a code a quarter off. */
+    private static void turnsWithIOf0() {
+        for (int strength = 1; strength <= 9; strength += 4) {
+            Run more = Run.of("bird a 4;heard a 9 7 4 " + strength + ";");
+            more.lock(0, 0);
+            Check.same("I", more.sum(0, 1, 434 + 9, 0, 0), 0);
+            turned("I of 0, Q above it", more, (620 * 10 * strength) / 64, 1);
+            Check.same("bit of 0", more.logged(0, 0), 0);
+            Run less = Run.of("bird a 4;heard a 9 7 12 " + strength + ";");
+            less.lock(0, 0);
+            Check.same("I", less.sum(0, 1, 434 + 9, 0, 0), 0);
+            turned("I of 0, Q below it", less, Math.floorDiv(-620 * 10 * strength, 64), 15);
+        }
+    }
+
+    /** Of next to nothing, I and Q of -1, 0, 1, it goes by the same rules. */
+    private static void turnsByTheLeast() {
+        boolean[][] seen = new boolean[3][3];
+        for (int seed = 0; seed < 600; seed++) {
+            Run x = Run.of("bird a 4;heard a 0 7 0 1;fade a 1;noise 1;seed " + seed + ";");
+            int i = x.sum(0, 1, 434, 0, 0);
+            int q = x.sum(0, 1, 434, 0, 1);
+            if (Math.abs(i) > 1 || Math.abs(q) > 1) {
+                continue;
+            }
+            x.lock(0, 0);
+            Check.same("locked at", x.channel(0, 1), 0);
+            Check.same("by shift", x.channel(0, 2), 7);
+            x.follow(1);
+            seen[i + 1][q + 1] = true;
+            // Twice a Q of 1 is greater than an I of 1.
+            int turn = q == 0 ? 0 : q > 0 == i >= 0 ? 1 : 15;
+            Check.same("TURN by " + i + " and " + q, x.channel(0, 3), turn);
+            Check.same("bit by " + i, x.logged(0, 0), i < 0 ? 1 : 0);
+        }
+        for (int i = 0; i < 3; i++) {
+            for (int q = 0; q < 3; q++) {
+                Check.yes("I " + (i - 1) + " and Q " + (q - 1) + " are seen", seen[i][q]);
+            }
+        }
     }
 
     /** "around": 15 and 0 are one apart. Sixteen strong by TURN 0, nine more a quarter off, to either side. */
