@@ -88,6 +88,30 @@ public final class Promise20ClearestTest {
         Check.same("the best ahead of it", x.clearest(0, 25, 8), best(x, 0, 25, 6));
         Check.same("all behind it", x.clearest(0, 31, 8), 31);
         Check.same("to the last one", x.clearest(0, 192, 8), 192);
+        // Two birds that take one another away until one of them fades; then all cells are alike, a quotient of 1.
+        Run pair = Run.of("first 1;second 1;bird a 0;bird b 0;heard a 9 7 0 1;heard b 9 7 8 1;fade b 34;");
+        Check.same("rival ahead of the fading", pair.hunt(0, 33, 1, 2), 0);
+        Check.same("peak behind it", pair.hunt(0, 34, 1, 1), pair.hunt(0, 34, 1, 2));
+        Check.same("1 is more than nothing by one", pair.clearest(0, 30, 8), 34);
+        Check.same("just ahead of it", pair.clearest(0, 33, 2), 34);
+        Check.same("none behind it", pair.clearest(0, 30, 4), 30);
+        rivalOfNothing();
+    }
+
+    /** A PEAK of 2 with a RIVAL of 0: its quotient is 2, less than one of 5 by 2, more than one below 2. */
+    private static void rivalOfNothing() {
+        Run x = Run.of("first 30;second 30;bird a 5;bird b 5;bird c 5;bird d 5;heard a 1 7 6 1;heard b 1 7 13 1;"
+            + "heard c 1 7 6 1;heard d 1 7 13 1;send a 2 0;send b 2 0;");
+        int[][] due = {{2, 0}, {4885, 3328}, {5, 2}, {0, 0}, {0, 0}, {4885, 3328}, {5002, 3233}};
+        for (int period = 0; period < due.length; period++) {
+            Check.same("peak at " + period, x.hunt(0, period, 1, 1), due[period][0]);
+            Check.same("rival at " + period, x.hunt(0, period, 1, 2), due[period][1]);
+        }
+        Check.same("2 ahead of less", x.clearest(0, 0, 2), 0);
+        Check.same("5 by 2 behind 2", x.clearest(0, 0, 3), 2);
+        Check.same("of all", x.clearest(0, 0, 8), 2);
+        Check.same("nothing by one ahead of more", x.clearest(0, 3, 3), 5);
+        Check.same("more behind it", x.clearest(0, 3, 4), 6);
     }
 
     private static void noSuchOnes() {

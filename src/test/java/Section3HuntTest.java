@@ -164,6 +164,33 @@ public final class Section3HuntTest {
         Run faded = Run.of("bird a 0;heard a 3 7 0 9;fade a 100;ratio 10;");
         Check.same("ahead of its fading", faded.hunt(0, 99, 1, 3), 1);
         Check.same("behind it", faded.hunt(0, 100, 1, 3), 0);
+        leastAboveNothing();
+    }
+
+    /** Four birds of which all but sample 0 of period 0 is taken away: it is 6, -4. */
+    private static void leastAboveNothing() {
+        String four = "first 30;second 30;bird a 5;bird b 5;bird c 5;bird d 5;heard a 1 7 10 1;heard b 1 7 3 1;"
+            + "heard c 1 7 10 1;heard d 1 7 3 1;send a 2 0;send b 2 0;ratio ";
+        Run x = Run.of(four + "10;");
+        Check.same("sample 0", x.sample(0, 0), 6);
+        Check.same("IM of it", x.sample(0, 1), -4);
+        for (int n = 1; n < 62; n++) {
+            Check.same("sample " + n, Math.abs(x.sample(n, 0)) + Math.abs(x.sample(n, 1)), 0);
+        }
+        Check.same("peak of 1", x.hunt(0, 0, 1, 1), 1);
+        Check.same("the first one", x.hunt(0, 0, 1, 0), 0);
+        Check.same("rival of 1", x.hunt(0, 0, 1, 2), 1);
+        Check.same("acquired", x.hunt(0, 0, 1, 3), 1);
+        Check.same("not by 11", Run.of(four + "11;").hunt(0, 0, 1, 3), 0);
+        Check.same("a channel by it", x.lock(0, 0), 0);
+        Check.same("its BASE", x.channel(0, 4), 1);
+        // Turned so that the sample is 6, 4: only the two chips of -1 have sums below 0, around start 0.
+        Run near = Run.of(four.replace(" 10 1;", " 6 1;").replace(" 3 1;", " 13 1;") + "99;");
+        Check.same("sample 0 by now", near.sample(0, 1), 4);
+        Check.same("peak of 2", near.hunt(0, 0, 1, 1), 2);
+        Check.same("at start 0", near.hunt(0, 0, 1, 0), 0);
+        Check.same("no rival", near.hunt(0, 0, 1, 2), 0);
+        Check.same("acquired by any ratio", near.hunt(0, 0, 1, 3), 1);
     }
 
     /** "the POWERS of these together": each period for itself, so a BIT turned over takes nothing away. */
