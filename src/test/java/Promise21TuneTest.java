@@ -45,6 +45,14 @@ public final class Promise21TuneTest {
         Check.same("tune of two alike", two.tune(0, 0, 0), 3);
         Run turned = Run.of("bird a 4;bird b 4;heard a 0 11 0 8;heard b 0 3 0 8;");
         Check.same("tune of two alike, turned about", turned.tune(0, 0, 0), 3);
+        // Four birds that take one another away but for two samples: powers of 0 and 1 alone, that of shift 0 is 0.
+        Run small = Run.of("first 12;second 10;bird a 2;bird b 2;bird c 2;bird d 2;heard a 60 5 6 1;heard b 60 5 15 1;"
+            + "heard c 60 5 6 1;heard d 60 5 15 1;send a 3 21;send b 3 21;");
+        for (int shift = 0; shift <= 14; shift++) {
+            boolean one = shift == 1 || shift == 3 || shift == 4 || shift >= 13;
+            Check.same("small power by shift " + shift, small.sum(0, 33, 62 * shift + 5, 0, 2), one ? 1 : 0);
+        }
+        Check.same("the first power of 1", small.tune(0, 33, 5), 1);
     }
 
     private static void ofTurn0() {

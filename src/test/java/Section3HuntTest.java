@@ -3,6 +3,7 @@ public final class Section3HuntTest {
     public static void main(String[] args) {
         cellByCell();
         theFirstAndTheLastCell();
+        anyCell();
         theFirstOfTheGreatest();
         rivalsAre3Apart();
         rivalsAround();
@@ -54,6 +55,14 @@ public final class Section3HuntTest {
         }
         for (int start : new int[] {0, 1, 2, 59, 60, 61}) {
             same(Run.of("bird a 4;heard a " + start + " 5 0 2;noise 9;ratio 30;"), 0, 3, 1, 30);
+        }
+    }
+
+    /** "CELLS: 62 times SHIFT and start": a bird heard alone by TURN 0 has its PEAK in the cell of both. */
+    private static void anyCell() {
+        for (int cell = 0; cell < 930; cell++) {
+            Run x = Run.of("bird a 4;heard a " + cell % 62 + " " + cell / 62 + " 0 9;");
+            Check.same("peak of cell " + cell, x.hunt(0, 0, 1, 0), cell);
         }
     }
 
